@@ -475,8 +475,8 @@ public final class FederationWire {
 
         int sum() {
             int sum = kind ^ number ^ length;
-            for (int i = 0; i < length; i++) {
-                sum ^= byteAt(i);
+            for (int i = 0; i < length && i < body.length; i++) {
+                sum ^= body[i];
             }
             return sum;
         }
