@@ -1,17 +1,35 @@
-/** Counts the answers that are not as due, and ends the test with code 1 if there were any. */
+/**
+ * Counts the answers that are not as due, sentence by sentence of the document, and ends the test
+ * with code 1 if there were any.
+ */
 final class Check {
-    private int calls = 0;
+    private final String promise;
+    private String sentence = "";
+    private int callsOfSentence = 0;
     private int wrong = 0;
 
+    /** The answers are due by this promise (or by this part of the document). */
+    Check(String itsPromise) {
+        promise = itsPromise;
+    }
+
+    /** What follows, up to the next sentence, is due by this one. */
+    void sentence(String text) {
+        if (!sentence.isEmpty()) {
+            endSentence();
+        }
+        sentence = text;
+    }
+
     void due(String call, long got, long want) {
-        calls++;
+        callsOfSentence++;
         if (got != want) {
             fault(call + " answered " + got + ", due is " + want);
         }
     }
 
     void due(String call, String got, String want) {
-        calls++;
+        callsOfSentence++;
         if (!got.equals(want)) {
             fault(call + " answered [" + got + "], due is [" + want + "]");
         }
@@ -19,13 +37,19 @@ final class Check {
 
     void fault(String text) {
         wrong++;
-        System.out.println(text);
+        System.out.println(promise + (sentence.isEmpty() ? "" : ", \"" + sentence + "\"")
+                + ": " + text);
+    }
+
+    private void endSentence() {
+        if (callsOfSentence == 0) {
+            fault("nothing was tested");
+        }
+        callsOfSentence = 0;
     }
 
     void end() {
-        if (calls == 0) {
-            fault("nothing was tested");
-        }
+        endSentence();
         if (wrong != 0) {
             System.out.println(wrong + " answers are not as due");
             System.exit(1);

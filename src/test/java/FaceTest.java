@@ -16,7 +16,7 @@ public final class FaceTest {
     };
 
     public static void main(String[] args) {
-        Check check = new Check();
+        Check check = new Check("The public face");
         TreeSet<String> seen = new TreeSet<>();
         for (Field field : FederationWire.class.getDeclaredFields()) {
             if (!Modifier.isPrivate(field.getModifiers())) {

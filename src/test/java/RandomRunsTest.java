@@ -27,7 +27,7 @@ public final class RandomRunsTest {
     }
 
     public static void main(String[] args) {
-        Check check = new Check();
+        Check check = new Check("Random runs (all promises)");
         for (int run = 0; run < RUNS; run++) {
             new RandomRunsTest(run).go(check, run);
         }

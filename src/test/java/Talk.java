@@ -22,7 +22,10 @@ final class Talk {
         return bytes;
     }
 
-    /** All bytes come on the line, up to the first answer that is not 0: that answer. */
+    /**
+     * All bytes come on the line, up to the first answer that is not 0: that answer, made unlike
+     * any other when it came before the last byte.
+     */
     static int feed(FederationWire x, int line, int... bytes) {
         int answer = 0;
         for (int i = 0; i < bytes.length && answer == 0; i++) {
@@ -47,6 +50,25 @@ final class Talk {
         return text.toString();
     }
 
+    static void take(FederationWire x, int line, int bytes) {
+        for (int i = 0; i < bytes; i++) {
+            x.out(line);
+        }
+    }
+
+    /** What the serving end answers to a frame, its out row being empty before. */
+    static String answer(FederationWire x, int kind, int number, int... body) {
+        say(x, 4, kind, number, body);
+        return drain(x, 4);
+    }
+
+    /** The latest frames of those who wait on a line, which goes down and comes up for that. */
+    static String latest(FederationWire x, int line) {
+        x.down(line);
+        x.up(line);
+        return drain(x, line);
+    }
+
     static String text(int[]... frames) {
         StringBuilder text = new StringBuilder();
         for (int[] frame : frames) {
@@ -65,11 +87,28 @@ final class Talk {
         return text.toString();
     }
 
+    static String counts(FederationWire x) {
+        StringBuilder text = new StringBuilder();
+        for (int what = 0; what < 8; what++) {
+            text.append(what == 0 ? "" : " ").append(x.count(what));
+        }
+        return text.toString();
+    }
+
     static String rows(FederationWire x, int request) {
         StringBuilder text = new StringBuilder();
         for (int i = 0; x.row(request, i, 0) >= 0; i++) {
             text.append(i == 0 ? "" : " ").append(x.row(request, i, 0))
                 .append(':').append(x.row(request, i, 1));
+        }
+        return text.toString();
+    }
+
+    static String joined(FederationWire x, int request) {
+        StringBuilder text = new StringBuilder();
+        for (int i = 0; i < x.told(request, 4); i++) {
+            text.append(i == 0 ? "" : " ").append(x.joined(request, i, 0))
+                .append(':').append(x.joined(request, i, 1));
         }
         return text.toString();
     }
@@ -83,10 +122,48 @@ final class Talk {
         return x;
     }
 
+    /** A new object with a line that is up and BULK 8, so that an ASK may have up to 14 bytes. */
+    static FederationWire wide(int line) {
+        FederationWire x = new FederationWire();
+        x.setting(0, 8);
+        x.up(line);
+        return x;
+    }
+
     static void bindAll(FederationWire x, int... keys) {
         for (int i = 0; i < keys.length; i++) {
             x.bind(keys[i], 100 + i);
         }
+    }
+
+    /** A request for the keys 1, 2, .. up to so many: with BULK 8, an ASK of 6 bytes and these. */
+    static int askFor(FederationWire x, int house, int many) {
+        for (int key = 1; key <= many; key++) {
+            x.bind(key, 100 + key);
+        }
+        return x.ask(house, false);
+    }
+
+    static void askForEight(FederationWire x, int house, int requests) {
+        for (int i = 0; i < requests; i++) {
+            askFor(x, house, 8);
+        }
+    }
+
+    static int[] keysUpTo(int first, int last) {
+        int[] keys = new int[last - first + 1];
+        for (int i = 0; i < keys.length; i++) {
+            keys[i] = first + i;
+        }
+        return keys;
+    }
+
+    /** The bytes of an ASK or a CAN'T behind its length. */
+    static int[] behindStep(int step, int... others) {
+        int[] body = new int[others.length + 1];
+        body[0] = step;
+        System.arraycopy(others, 0, body, 1, others.length);
+        return body;
     }
 
     /** So many facts with one key and the values 0, 1, .. */
@@ -106,5 +183,9 @@ final class Talk {
             body[3 + 2 * i] = firstValue + i;
         }
         return body;
+    }
+
+    static String rowsFrame(int number, int step, int more, int key, int firstValue, int many) {
+        return text(frame(ROWS, number, rowsBody(step, more, key, firstValue, many)));
     }
 }
