@@ -44,8 +44,10 @@ final class Talk {
     /** The bytes of a line's out row, all taken, as a text. */
     static String drain(FederationWire x, int line) {
         StringBuilder text = new StringBuilder();
-        for (int b = x.out(line); b >= 0; b = x.out(line)) {
+        int b = x.out(line);
+        for (int taken = 0; b >= 0 && taken <= 300; taken++) {
             text.append(text.length() == 0 ? "" : " ").append(b);
+            b = x.out(line);
         }
         return text.toString();
     }
@@ -97,7 +99,7 @@ final class Talk {
 
     static String rows(FederationWire x, int request) {
         StringBuilder text = new StringBuilder();
-        for (int i = 0; x.row(request, i, 0) >= 0; i++) {
+        for (int i = 0; i <= 60 && x.row(request, i, 0) >= 0; i++) {
             text.append(i == 0 ? "" : " ").append(x.row(request, i, 0))
                 .append(':').append(x.row(request, i, 1));
         }
