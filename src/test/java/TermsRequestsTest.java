@@ -15,6 +15,7 @@ public final class TermsRequestsTest {
         otherKindsAreDropped(check);
         sixtyRows(check);
         sixtyRowsWithinAFrame(check);
+        sixtyRowsOfAllParts(check);
         whateverTheirKeys(check);
         moreCountsThisPart(check);
         moreCountsAllOfThem(check);
@@ -279,6 +280,33 @@ public final class TermsRequestsTest {
         check.due("done with 60", Talk.told(x, 0), "3 1 0 60 60 7 0 1");
         check.due("the last that it has", x.row(0, 59, 1), 59);
         check.due("no other", x.row(0, 60, 1), -2);
+    }
+
+    private static void sixtyRowsOfAllParts(Check check) {
+        check.sentence("(60 at most; others are left out): of all parts");
+        FederationWire x = new FederationWire();
+        x.up(0);
+        x.setting(0, 1);
+        Talk.askFor(x, 0, 3);
+        for (int i = 0; i < 7; i++) {
+            Talk.say(x, 0, Talk.ROWS, 0, Talk.rowsBody(i, i == 6 ? 0 : 1, 1, 8 * i, 8));
+        }
+        check.due("56 of the first part", x.told(0, 3), 56);
+        Talk.say(x, 0, Talk.ROWS, 0, Talk.rowsBody(7, 1, 2, 100, 3));
+        check.due("3 of the second", x.told(0, 3), 59);
+        Talk.say(x, 0, Talk.ROWS, 0, Talk.rowsBody(8, 1, 2, 103, 2));
+        check.due("one of two more", x.told(0, 3), 60);
+        check.due("MORE counts those that are left out, too", Talk.latest(x, 0),
+                Talk.text(Talk.frame(3, 0, 9, 5)));
+        Talk.say(x, 0, Talk.ROWS, 0, Talk.rowsBody(9, 0, 2, 105, 1));
+        check.due("the third part", Talk.latest(x, 0), Talk.text(Talk.frame(1, 0, 10, 3)));
+        Talk.say(x, 0, Talk.ROWS, 0, Talk.rowsBody(10, 0, 3, 106, 2));
+        check.due("done, with none of the third", Talk.told(x, 0), "0 1 0 60 60 10 0 3");
+        check.due("row 0", x.row(0, 0, 1), 0);
+        check.due("row 55", x.row(0, 55, 1), 55);
+        check.due("row 56", x.row(0, 56, 1), 100);
+        check.due("row 59", x.row(0, 59, 1), 103);
+        check.due("row 60", x.row(0, 60, 1), -2);
     }
 
     private static void whateverTheirKeys(Check check) {
